@@ -129,15 +129,14 @@ public final class OneSmoke {
             return false;
         }
         remember();
-        now.state.light(valley, house, fuel);
-        return true;
+        return now.state.light(valley, house, fuel);
     }
 
     public int lend(int house, int other, int fuel, int many) {
         if (!valley.has(HOUSES, house) || !valley.has(HOUSES, other) || !valley.has(FUELS, fuel)) {
             return NONE;
         }
-        if (house == other || many < 1 || now.state.stockOf(house, fuel) < many) {
+        if (!now.state.canHand(house, other, fuel, many)) {
             return NONE;
         }
         remember();
@@ -301,6 +300,9 @@ public final class OneSmoke {
         int own = 1 << house;
         int others = fires & ~own;
         int count = Integer.bitCount(fires);
+        if (count < 1 || count >= ORDERS.length) {
+            return 0;
+        }
         int sum = 0;
         for (int ahead = 0; ahead <= others; ahead++) {
             if ((ahead & ~others) == 0) {
@@ -481,7 +483,7 @@ public final class OneSmoke {
         for (int house = 0; house < valley.many[HOUSES]; house++) {
             last = (last * 1103515245L + 12345L) % 2147483648L;
             int fuel = (int) (last / 65536L % (fuels + 1));
-            if (fuel < fuels && dream.canLight(house, fuel)) {
+            if (fuel < fuels) {
                 dream.light(valley, house, fuel);
             }
         }
@@ -900,6 +902,10 @@ public final class OneSmoke {
         // What fires give, once worked out: the same few are asked for again and again.
         private final int[] gifts = new int[MOST_FUELS * (MOST_LEFT + 1) * (MOST_WIND + 1) * 2];
 
+        Valley() {
+            Arrays.fill(gifts, UNKNOWN);
+        }
+
         void clear() {
             Arrays.fill(many, 0);
             Arrays.fill(stock, 0);
@@ -1248,23 +1254,14 @@ public final class OneSmoke {
             int at = line * CELLS;
             int house = cells[at + 1];
             int fuel = cells[at + 3];
-            int much = cells[at + 4];
             if (cells[at] == HOUR) {
                 state.pass(valley);
                 return true;
             }
             if (cells[at] == BURN) {
-                boolean can = state.canLight(house, fuel);
-                if (can) {
-                    state.light(valley, house, fuel);
-                }
-                return can;
+                return state.light(valley, house, fuel);
             }
-            boolean can = state.stockOf(house, fuel) >= much;
-            if (can) {
-                state.hand(house, cells[at + 2], fuel, much);
-            }
-            return can;
+            return state.hand(house, cells[at + 2], fuel, cells[at + 4]);
         }
 
         void readFrom(Tape tape, Valley valley) {
@@ -1321,6 +1318,10 @@ public final class OneSmoke {
         private final int[] left = new int[MOST_HOUSES];
         private final int[] soot = new int[MOST_FLUES];
 
+        State() {
+            Arrays.fill(fuel, NONE);
+        }
+
         void begin(Valley valley) {
             hour = 0;
             System.arraycopy(valley.stock, 0, stock, 0, stock.length);
@@ -1338,28 +1339,47 @@ public final class OneSmoke {
         }
 
         int stockOf(int house, int ofFuel) {
-            int at = house * MOST_FUELS + ofFuel;
-            return at >= 0 && at < stock.length ? stock[at] : 0;
+            if (house < 0 || house >= MOST_HOUSES || ofFuel < 0 || ofFuel >= MOST_FUELS) {
+                return 0;
+            }
+            return stock[house * MOST_FUELS + ofFuel];
         }
 
         boolean burns(int house) {
-            return left[house] > 0;
+            return house >= 0 && house < MOST_HOUSES && left[house] > 0;
         }
 
         boolean canLight(int house, int ofFuel) {
             return !burns(house) && stockOf(house, ofFuel) > 0;
         }
 
-        void light(Valley valley, int house, int ofFuel) {
+        /** A house's fire; false if it can't be. */
+        boolean light(Valley valley, int house, int ofFuel) {
+            if (!canLight(house, ofFuel)) {
+                return false;
+            }
             stock[house * MOST_FUELS + ofFuel]--;
             fuel[house] = ofFuel;
             left[house] = valley.fuelBurns[ofFuel];
+            return true;
         }
 
-        void hand(int house, int other, int ofFuel, int much) {
+        boolean canHand(int house, int other, int ofFuel, int much) {
+            if (other < 0 || other >= MOST_HOUSES || other == house) {
+                return false;
+            }
+            return much > 0 && stockOf(house, ofFuel) >= much;
+        }
+
+        /** A house's loan to another one; false if it can't be. */
+        boolean hand(int house, int other, int ofFuel, int much) {
+            if (!canHand(house, other, ofFuel, much)) {
+                return false;
+            }
             stock[house * MOST_FUELS + ofFuel] -= much;
             int then = stockOf(other, ofFuel) + much;
             stock[other * MOST_FUELS + ofFuel] = Math.min(then, MOST_STOCK);
+            return true;
         }
 
         int fires() {
