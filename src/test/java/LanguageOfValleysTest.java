@@ -171,6 +171,7 @@ public final class LanguageOfValleysTest {
         Check.in(watchers);
         Check.valleyFault(5, watchers + " ^watcher");
         Check.valleyFault(5, "winds 0 1 2 3 4 5 6 7 8 9 0 1 ^2;");
+        Check.valleyFault(5, "winds 0 1 2 3 4 5 6 7 8 9 0 1 ^9;");
         // Out of range, too: of one token the least kind.
         Check.valleyFault(4, "winds 0 1 2 3 4 5 6 7 8 9 0 1 ^10;");
         Check.valleyFault(1, "winds 0 1 2 3 4 5 6 7 8 9 0 1 ^a;");

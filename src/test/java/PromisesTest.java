@@ -189,6 +189,13 @@ public final class PromisesTest {
         law("9999", 999, 999);
         law("shade*(1-smelt)+scent*10*smelt", 7, 30);
         law("((((left))))*((wind)+not not not 0)", 12, 12);
+        law("1" + "+1".repeat(450), 451, 451);
+        law("0" + " or 0".repeat(150) + " or 1", 1, 1);
+        // As many values waiting for others as can be: four at each of the five levels.
+        String level = "0 or 0<1+1*(";
+        law(level.repeat(4) + "0 or 0<1+1*7" + "))))", 1, 1);
+        law(level.repeat(4) + "1 and 9<1+1*7" + "))))", 1, 1);
+        law("1 and 1=0+1*(".repeat(4) + "1 and 9<1+1*7" + "))))", 0, 0);
     }
 
     private static void burn() {
