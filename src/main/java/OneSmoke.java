@@ -29,6 +29,7 @@ public final class OneSmoke {
     private static final int BY_DARK = 0;
     private static final int BY_SWEET = 1;
     private static final int BY_BOTH = 2;
+    private static final int SIGHTS = 3;
 
     private static final int[] ORDERS = {1, 1, 2, 6, 24};
 
@@ -40,6 +41,8 @@ public final class OneSmoke {
     private final Day spareDay = new Day();
     private final Walk walk = new Walk();
     private final Speller speller = new Speller();
+    private final int[] flueWays = new int[MOST_FLUES];
+    private final int[] flueAlike = new int[MOST_FLUES * SIGHTS];
     private Valley valley = new Valley();
     private Valley spareValley = new Valley();
     private int laid;
@@ -64,7 +67,7 @@ public final class OneSmoke {
 
     public int valley() {
         ValleyReader reader = new ValleyReader(tape, spareValley);
-        reader.readAll();
+        reader.readLines();
         int fault = tape.close();
         if (fault == 0) {
             Valley old = valley;
@@ -192,7 +195,7 @@ public final class OneSmoke {
         if (!speller.find(valley, now.state, flue, sign, second)) {
             return OTHERS;
         }
-        return house == NONE ? speller.best : speller.firstOf(house);
+        return house == NONE ? speller.fewest : speller.firstOf(house);
     }
 
     public int sure(int house, int sign) {
@@ -246,15 +249,13 @@ public final class OneSmoke {
 
     public int ask() {
         int flues = valley.many[FLUES];
-        int[] ways = new int[MOST_FLUES];
-        int[] alike = new int[MOST_FLUES * 3];
         int all = 1;
         for (int flue = 0; flue < flues; flue++) {
             walk.byRead(valley, now, flue);
-            ways[flue] = walk.ways;
-            alike[flue * 3 + BY_DARK] = walk.mostDark;
-            alike[flue * 3 + BY_SWEET] = walk.mostSweet;
-            alike[flue * 3 + BY_BOTH] = walk.mostSign;
+            flueWays[flue] = walk.ways;
+            flueAlike[flue * SIGHTS + BY_DARK] = walk.mostDark;
+            flueAlike[flue * SIGHTS + BY_SWEET] = walk.mostSweet;
+            flueAlike[flue * SIGHTS + BY_BOTH] = walk.mostSign;
             all *= walk.ways;
         }
         int least = all;
@@ -262,11 +263,11 @@ public final class OneSmoke {
         for (int watcher = 0; watcher < valley.many[WATCHERS]; watcher++) {
             for (int flue = 0; flue < flues; flue++) {
                 // What burns below one flue leaves the other flues' ways as they are.
-                int elsewhere = ways[flue] > 0 ? all / ways[flue] : 0;
-                int most = alike[flue * 3 + valley.sights[watcher]] * elsewhere;
+                int elsewhere = flueWays[flue] > 0 ? all / flueWays[flue] : 0;
+                int most = flueAlike[flue * SIGHTS + valley.sights[watcher]] * elsewhere;
                 if (most < least) {
                     least = most;
-                    answer = watcher * 3 + flue;
+                    answer = watcher * MOST_FLUES + flue;
                 }
             }
         }
@@ -739,10 +740,6 @@ public final class OneSmoke {
             return length > 0;
         }
 
-        void readFrom(Tape tape) {
-            readTests(tape, 0);
-        }
-
         int worth(int shade, int scent, int wind, int left, int smelt) {
             int top = 0;
             for (int i = 0; i < length; i++) {
@@ -791,7 +788,7 @@ public final class OneSmoke {
             }
         }
 
-        private void readTests(Tape tape, int depth) {
+        void readTests(Tape tape, int depth) {
             readTest(tape, depth);
             for (int i = 0; i < Tape.ROOM; i++) {
                 int by = tape.isAt(Word.AND) ? AND : tape.isAt(Word.OR) ? OR : 0;
@@ -902,10 +899,6 @@ public final class OneSmoke {
         // What fires give, once worked out: the same few are asked for again and again.
         private final int[] gifts = new int[MOST_FUELS * (MOST_LEFT + 1) * (MOST_WIND + 1) * 2];
 
-        Valley() {
-            Arrays.fill(gifts, UNKNOWN);
-        }
-
         void clear() {
             Arrays.fill(many, 0);
             Arrays.fill(stock, 0);
@@ -992,6 +985,12 @@ public final class OneSmoke {
             return value >= ranges[at] && value <= ranges[at + 1];
         }
 
+        /** Whether no sum from the one to the other (999 at most) lies within a sign's range. */
+        boolean misses(int sign, int by, int least, int most) {
+            int at = sign * 4 + by * 2;
+            return Math.min(least, MOST_SMOKE) > ranges[at + 1] || Math.min(most, MOST_SMOKE) < ranges[at];
+        }
+
         boolean fitsNone(int value, int by) {
             for (int sign = 0; sign < many[SIGNS]; sign++) {
                 if (fits(sign, value, by)) {
@@ -1030,35 +1029,31 @@ public final class OneSmoke {
             this.valley = valley;
         }
 
-        void readAll() {
+        void readLines() {
             valley.clear();
             tape.open();
             for (int i = 0; i < Tape.ROOM && !tape.isOver(); i++) {
-                readLine();
-            }
-        }
-
-        private void readLine() {
-            if (tape.isAt(Word.FUEL)) {
-                readFuel();
-            } else if (tape.isAt(Word.FLUE)) {
-                readFlue();
-            } else if (tape.isAt(Word.HOUSE)) {
-                readHouse();
-            } else if (tape.isAt(Word.STOCK)) {
-                readStock();
-            } else if (tape.isAt(Word.SIGN)) {
-                readSign();
-            } else if (tape.isAt(Word.WATCHER)) {
-                readWatcher();
-            } else if (tape.isAt(Word.WINDS)) {
-                readWinds();
-            } else if (tape.isAt(Word.GIVES)) {
-                readLaw(valley.gives);
-            } else if (tape.isAt(Word.SOOTS)) {
-                readLaw(valley.soots);
-            } else {
-                tape.fail(Tape.WRONG);
+                if (tape.isAt(Word.FUEL)) {
+                    readFuel();
+                } else if (tape.isAt(Word.FLUE)) {
+                    readFlue();
+                } else if (tape.isAt(Word.HOUSE)) {
+                    readHouse();
+                } else if (tape.isAt(Word.STOCK)) {
+                    readStock();
+                } else if (tape.isAt(Word.SIGN)) {
+                    readSign();
+                } else if (tape.isAt(Word.WATCHER)) {
+                    readWatcher();
+                } else if (tape.isAt(Word.WINDS)) {
+                    readWinds();
+                } else if (tape.isAt(Word.GIVES)) {
+                    readLaw(valley.gives);
+                } else if (tape.isAt(Word.SOOTS)) {
+                    readLaw(valley.soots);
+                } else {
+                    tape.fail(Tape.WRONG);
+                }
             }
         }
 
@@ -1216,7 +1211,7 @@ public final class OneSmoke {
             }
             tape.step();
             if (tape.isSound()) {
-                law.readFrom(tape);
+                law.readTests(tape, 0);
             }
             tape.expectSign(';');
         }
@@ -1630,15 +1625,17 @@ public final class OneSmoke {
     }
 
     /**
-     * Finds the fewest fuels by which a row of signs is read. Rows are gone through in their order
-     * and only a lesser one is taken, so that the first of equal ones stays.
+     * Finds the fewest fuels by which a row of signs is read: rows of none, of one, of two fuels and so on,
+     * each time in the order of rows, so that the first one found is the one.
      */
     private static final class Speller {
-        private static final int TOO_MANY = 2 * MOST_HOUSES + 1;
+        private static final int NOW = 0;
+        private static final int NEXT = 2;
 
         private final int[] houses = new int[MOST_HOUSES];
         private final int[] row = new int[MOST_HOUSES];
-        private final int[] bestRow = new int[MOST_HOUSES];
+        // What the houses from one on can add at most: now and in the next hour, each by dark and by sweet.
+        private final int[] most = new int[(MOST_HOUSES + 1) * 4];
         private Valley valley;
         private State state;
         private int count;
@@ -1646,8 +1643,9 @@ public final class OneSmoke {
         private int second;
         private int wind;
         private int nextWind;
-        private int best;
+        private int fewest;
 
+        /** Whether it can be; fewest tells by how many then. */
         boolean find(Valley in, State at, int flue, int firstSign, int secondSign) {
             valley = in;
             state = at;
@@ -1655,7 +1653,6 @@ public final class OneSmoke {
             second = secondSign;
             wind = in.windAt(at.hour);
             nextWind = in.windAt(at.hour + 1);
-            best = TOO_MANY;
             count = 0;
             for (int house = 0; house < in.many[HOUSES]; house++) {
                 if (in.houseFlue[house] == flue) {
@@ -1663,69 +1660,93 @@ public final class OneSmoke {
                     count++;
                 }
             }
-            goFirst(0, 0, 0, 0);
-            return best < TOO_MANY;
+            addUp();
+            for (int fuels = 0; fuels <= 2 * count; fuels++) {
+                fewest = fuels;
+                if (goFirst(0, 0, 0, fuels)) {
+                    return true;
+                }
+            }
+            return false;
         }
 
         int firstOf(int house) {
             for (int i = 0; i < count; i++) {
                 if (houses[i] == house) {
-                    return bestRow[i];
+                    return row[i];
                 }
             }
             return NONE;
         }
 
-        private void goFirst(int i, int dark, int sweet, int burnt) {
-            if (burnt >= best || isTooMuch(sign, dark, sweet)) {
-                return;
+        private void addUp() {
+            Arrays.fill(most, 0);
+            for (int i = count - 1; i >= 0; i--) {
+                for (int by = BY_DARK; by <= BY_SWEET; by++) {
+                    most[i * 4 + NOW + by] = most[i * 4 + 4 + NOW + by] + mostNow(houses[i], by);
+                    most[i * 4 + NEXT + by] = most[i * 4 + 4 + NEXT + by] + mostNext(houses[i], by);
+                }
+            }
+        }
+
+        private int mostNow(int house, int by) {
+            int best = valley.givesOf(state.fuel[house], state.left[house], wind, by);
+            for (int fuel = 0; fuel < valley.many[FUELS]; fuel++) {
+                if (state.canLight(house, fuel)) {
+                    best = Math.max(best, valley.fresh(fuel, wind, by));
+                }
+            }
+            return best;
+        }
+
+        private int mostNext(int house, int by) {
+            int best = valley.givesOf(state.fuel[house], state.left[house] - 1, nextWind, by);
+            for (int fuel = 0; fuel < valley.many[FUELS]; fuel++) {
+                if (state.stockOf(house, fuel) > 0) {
+                    int lasting = valley.givesOf(fuel, valley.fuelBurns[fuel] - 1, nextWind, by);
+                    best = Math.max(best, Math.max(lasting, valley.fresh(fuel, nextWind, by)));
+                }
+            }
+            return best;
+        }
+
+        /** Goes on from the i-th house in the first hour, with so many fuels to burn yet. */
+        private boolean goFirst(int i, int dark, int sweet, int fuels) {
+            int slots = count - i + (second == OTHERS ? 0 : count);
+            if (fuels < 0 || fuels > slots || isAstray(sign, dark, sweet, i * 4 + NOW)) {
+                return false;
             }
             if (i >= count) {
-                endFirst(dark, sweet, burnt);
-                return;
+                return valley.signOf(dark, sweet) == sign && (second == OTHERS || goSecond(0, 0, 0, fuels));
             }
             int house = houses[i];
             row[i] = NONE;
             if (state.burns(house)) {
-                int fuel = state.fuel[house];
-                int left = state.left[house];
-                int moreDark = valley.givesOf(fuel, left, wind, BY_DARK);
-                int moreSweet = valley.givesOf(fuel, left, wind, BY_SWEET);
-                goFirst(i + 1, dark + moreDark, sweet + moreSweet, burnt);
-                return;
+                int moreDark = valley.givesOf(state.fuel[house], state.left[house], wind, BY_DARK);
+                int moreSweet = valley.givesOf(state.fuel[house], state.left[house], wind, BY_SWEET);
+                return goFirst(i + 1, dark + moreDark, sweet + moreSweet, fuels);
             }
             for (int fuel = 0; fuel < valley.many[FUELS]; fuel++) {
                 if (state.canLight(house, fuel)) {
                     row[i] = fuel;
                     int moreDark = valley.fresh(fuel, wind, BY_DARK);
                     int moreSweet = valley.fresh(fuel, wind, BY_SWEET);
-                    goFirst(i + 1, dark + moreDark, sweet + moreSweet, burnt + 1);
+                    if (goFirst(i + 1, dark + moreDark, sweet + moreSweet, fuels - 1)) {
+                        return true;
+                    }
                 }
             }
             row[i] = NONE;
-            goFirst(i + 1, dark, sweet, burnt);
+            return goFirst(i + 1, dark, sweet, fuels);
         }
 
-        private void endFirst(int dark, int sweet, int burnt) {
-            if (valley.signOf(dark, sweet) != sign) {
-                return;
-            }
-            if (second == OTHERS) {
-                keep(burnt);
-            } else {
-                goSecond(0, 0, 0, burnt);
-            }
-        }
-
-        private void goSecond(int i, int dark, int sweet, int burnt) {
-            if (burnt >= best || isTooMuch(second, dark, sweet)) {
-                return;
+        /** Goes on from the i-th house in the second hour, behind the row of the first. */
+        private boolean goSecond(int i, int dark, int sweet, int fuels) {
+            if (fuels < 0 || fuels > count - i || isAstray(second, dark, sweet, i * 4 + NEXT)) {
+                return false;
             }
             if (i >= count) {
-                if (valley.signOf(dark, sweet) == second) {
-                    keep(burnt);
-                }
-                return;
+                return valley.signOf(dark, sweet) == second;
             }
             int house = houses[i];
             int lit = row[i];
@@ -1734,32 +1755,27 @@ public final class OneSmoke {
             if (left > 0) {
                 int moreDark = valley.givesOf(old, left, nextWind, BY_DARK);
                 int moreSweet = valley.givesOf(old, left, nextWind, BY_SWEET);
-                goSecond(i + 1, dark + moreDark, sweet + moreSweet, burnt);
-                return;
+                return goSecond(i + 1, dark + moreDark, sweet + moreSweet, fuels);
             }
             for (int fuel = 0; fuel < valley.many[FUELS]; fuel++) {
                 if (state.stockOf(house, fuel) > (fuel == lit ? 1 : 0)) {
                     int moreDark = valley.fresh(fuel, nextWind, BY_DARK);
                     int moreSweet = valley.fresh(fuel, nextWind, BY_SWEET);
-                    goSecond(i + 1, dark + moreDark, sweet + moreSweet, burnt + 1);
+                    if (goSecond(i + 1, dark + moreDark, sweet + moreSweet, fuels - 1)) {
+                        return true;
+                    }
                 }
             }
-            goSecond(i + 1, dark, sweet, burnt);
+            return goSecond(i + 1, dark, sweet, fuels);
         }
 
-        /** More smoke never makes less: beyond a sign's range there is no way back. */
-        private boolean isTooMuch(int wanted, int dark, int sweet) {
+        /** Smoke only grows: whether it is beyond a sign already, or can't come up to it by what may be added. */
+        private boolean isAstray(int wanted, int dark, int sweet, int at) {
             if (wanted == NONE) {
                 return false;
             }
-            int at = wanted * 4;
-            return Math.min(dark, MOST_SMOKE) > valley.ranges[at + 1]
-                || Math.min(sweet, MOST_SMOKE) > valley.ranges[at + 3];
-        }
-
-        private void keep(int burnt) {
-            best = burnt;
-            System.arraycopy(row, 0, bestRow, 0, MOST_HOUSES);
+            return valley.misses(wanted, BY_DARK, dark, dark + most[at + BY_DARK])
+                || valley.misses(wanted, BY_SWEET, sweet, sweet + most[at + BY_SWEET]);
         }
     }
 }

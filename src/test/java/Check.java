@@ -72,12 +72,15 @@ final class Check {
         due("tape behind day " + marked, x.count(13), 0);
     }
 
-    /** What rests answers, or -100 if it throws NoSuchElementException. */
+    /** What stands for a NoSuchElementException among answers. */
+    static final int THROWN = -100;
+
+    /** What rests answers, or THROWN if it throws NoSuchElementException. */
     static int rests(OneSmoke x, int one, int other, int oneSign, int otherSign, int gets, int what) {
         try {
             return x.rests(one, other, oneSign, otherSign, gets, what);
         } catch (java.util.NoSuchElementException e) {
-            return -100;
+            return THROWN;
         }
     }
 
