@@ -740,6 +740,10 @@ public final class OneSmoke {
             return length > 0;
         }
 
+        void readFrom(Tape tape) {
+            readTests(tape, 0);
+        }
+
         int worth(int shade, int scent, int wind, int left, int smelt) {
             int top = 0;
             for (int i = 0; i < length; i++) {
@@ -788,7 +792,7 @@ public final class OneSmoke {
             }
         }
 
-        void readTests(Tape tape, int depth) {
+        private void readTests(Tape tape, int depth) {
             readTest(tape, depth);
             for (int i = 0; i < Tape.ROOM; i++) {
                 int by = tape.isAt(Word.AND) ? AND : tape.isAt(Word.OR) ? OR : 0;
@@ -848,7 +852,10 @@ public final class OneSmoke {
             } else if (open) {
                 tape.step();
                 readTests(tape, depth + 1);
-                tape.expectSign(')');
+                if (!tape.isAtSign(')')) {
+                    tape.fail(Tape.WRONG);
+                }
+                tape.step();
             } else {
                 put(fact != 0 ? fact : tape.number);
                 tape.step();
@@ -1211,7 +1218,7 @@ public final class OneSmoke {
             }
             tape.step();
             if (tape.isSound()) {
-                law.readTests(tape, 0);
+                law.readFrom(tape);
             }
             tape.expectSign(';');
         }

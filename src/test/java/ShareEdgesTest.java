@@ -408,6 +408,12 @@ public final class ShareEdgesTest {
         y.hour();
         Check.due("wind", Check.rests(y, 0, 1, 0, 0, 5, 0), 1);
         Check.due("wind, the other", Check.rests(y, 0, 1, 0, 0, 5, 1), 10);
+        // Beside a third one's fire, of which sweet comes, too.
+        OneSmoke z = Check.in("fuel a dark 0 sweet 3 burns 1;" + house + "house i at f;stock i a 1;sign s dark 0 to 0 sweet 6 to 6;");
+        z.burn(2, 0);
+        Check.due("one beside a fire", Check.rests(z, 0, 1, 0, 0, 5, NONE), 2);
+        Check.due("one beside a fire: the other", Check.rests(z, 0, 1, 0, 0, 5, 0), 1);
+        Check.due("one beside a fire: the first", Check.rests(z, 0, 1, 0, 0, 5, 1), 10);
     }
 
     // Promise 22: "what 0: SIGNS, 1: soot, 2: FUELS; NONE: others".

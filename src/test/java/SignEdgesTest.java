@@ -23,6 +23,8 @@ public final class SignEdgesTest {
         spellBesideFires();
         spellStock();
         spellFiresThatEnd();
+        spellFiresThatGiveMoreLater();
+        spellByTheFifthFuel();
         spellNextWind();
         spellAtMost999();
         spellWithinFromTo();
@@ -101,6 +103,9 @@ public final class SignEdgesTest {
         OneSmoke y = Check.in("fuel a dark 1 sweet 0 burns 1;flue f;house h at f;stock h a 1;sign s dark 0 to 0 sweet 0 to 0;");
         Check.due("none by a fire", y.spell(0, NONE, -2, NONE), 1);
         Check.due("which", y.spell(0, NONE, -2, 0), 0);
+        Check.due("none twice by fires: one fuel too few", y.spell(0, NONE, NONE, NONE), -2);
+        OneSmoke z = Check.in("fuel a dark 1 sweet 0 burns 1;flue f;house h at f;stock h a 2;sign s dark 0 to 0 sweet 0 to 0;");
+        Check.due("none twice by fires", z.spell(0, NONE, NONE, NONE), 2);
         Check.due("no signs told", Check.in("flue f;").spell(0, NONE, NONE, NONE), 0);
     }
 
@@ -231,6 +236,32 @@ public final class SignEdgesTest {
         y.hour();
         Check.due("10, then 20 of a new one", y.spell(0, 0, 1, NONE), 1);
         Check.due("10, then out", y.spell(0, 0, 2, NONE), 0);
+    }
+
+    // Part 2: a FIRE "GIVES, in an hour" by the hours it burns yet: in the second hour it may give more than it does now.
+    private static void spellFiresThatGiveMoreLater() {
+        OneSmoke x = Check.in("fuel a dark 1 sweet 0 burns 3;flue f;house h at f;stock h a 1;gives (left=2)*(50+smelt*9);"
+            + "sign s dark 50 to 50 sweet 59 to 59;");
+        Check.due("nothing, then 50, of a new one", x.spell(0, NONE, 0, NONE), 1);
+        Check.due("50 at once", x.spell(0, 0, -2, NONE), -2);
+        x.burn(0, 0);
+        Check.due("nothing, then 50, of one that burns", x.spell(0, NONE, 0, NONE), 0);
+        Check.due("50 now", x.spell(0, 0, -2, NONE), -2);
+        x.hour();
+        Check.due("50, then nothing", x.spell(0, 0, NONE, NONE), 0);
+        Check.due("50 twice", x.spell(0, 0, 0, NONE), -2);
+    }
+
+    // Terms: "fuel: 5 at most": the fifth one spells in both hours, also for one HOUSE alone.
+    private static void spellByTheFifthFuel() {
+        StringBuilder text = new StringBuilder();
+        for (int fuel = 0; fuel < 5; fuel++) {
+            text.append("fuel f").append((char) ('a' + fuel)).append(" dark ").append(10 * fuel).append(" sweet ").append(fuel).append(" burns 1;");
+        }
+        OneSmoke x = Check.in(text + "flue u;house h at u;stock h fe 2;sign s dark 40 to 40 sweet 4 to 4;");
+        Check.due("in the first hour", x.spell(0, 0, -2, 0), 4);
+        Check.due("in the second", x.spell(0, NONE, 0, NONE), 1);
+        Check.due("in both", x.spell(0, 0, 0, NONE), 2);
     }
 
     // Part 2: "modulo how many are told": the second hour of a SPELL may be the first wind again.
@@ -454,6 +485,10 @@ public final class SignEdgesTest {
         Check.due("the last of each", x.read(1, 2, 2), true);
         Check.due("none", x.read(0, 0, NONE), true);
         Check.due("both of these", x.count(11), 2);
+        // FLUES are counted, not HOUSES.
+        OneSmoke y = Check.in("flue f;house g at f;house h at f;watcher w sees dark;");
+        Check.due("flue 1 of one", y.read(0, 1, NONE), false);
+        Check.due("flue 1 of two, without houses", Check.in("flue f;flue g;watcher w sees dark;").read(0, 1, NONE), true);
     }
 
     // Part 3: READ: "8 at most"; promise 15: "8 are READ".
@@ -618,6 +653,12 @@ public final class SignEdgesTest {
         x.read(1, 2, NONE);
         Check.due("none over nobody's: no way", x.ways(NONE), 0);
         Check.due("no way: cat", x.ways(2), NONE);
+        OneSmoke y = Check.in("fuel a dark 1 sweet 0 burns 1;flue f;flue g;house h at f;stock h a 1;sign s dark 1 to 9 sweet 0 to 9;"
+            + "watcher w sees dark;");
+        Check.due("more flues than houses", y.ways(NONE), 2);
+        y.read(0, 1, 0);
+        Check.due("what can't be over nobody's", y.ways(NONE), 0);
+        Check.due("whom to ask then", y.ask(), NONE);
     }
 
     // Promise 17: "NONE: none parts them": no WATCHERS, no WAY, one WAY, ways alike to all.

@@ -18,6 +18,7 @@ public final class TapeEdgesTest {
         numbers();
         digits();
         behindANumber();
+        behindAWord();
         blanks();
         otherSigns();
         Check.end("TapeEdgesTest");
@@ -198,6 +199,15 @@ public final class TapeEdgesTest {
         Check.valleyFault(1, "fuel a dark 1^sweetburns 2;");
         Check.valleyFault(1, "fuel a dark ^12345sweet 2;");
         Check.valleyFault(1, "fuel a dark 1^a sweet 2;");
+    }
+
+    // Terms: TOKENS, "each as long as can be", blanks "where one likes": a digit right behind a WORD is the next TOKEN's.
+    private static void behindAWord() {
+        Check.in("winds1 2;");
+        Check.in("fuel a dark1 sweet2 burns3;");
+        Check.in("gives shade*2and1;");
+        Check.valleyFault(1, "flue a^1;");
+        Check.valleyFault(1, "winds^12345;");
     }
 
     // Terms: "blanks (10, 32) between where one likes".
