@@ -368,6 +368,10 @@ public final class ShareEdgesTest {
         OneSmoke y = Check.in("fuel a dark 1 sweet 0 burns 1;flue f;house g at f;house h at f;stock g a 1;sign s dark 1 to 1 sweet 0 to 0;");
         Check.due("h has none: one rest", Check.rests(y, 0, 1, 0, 0, 5, NONE), 1);
         Check.due("g burns", Check.rests(y, 0, 1, 0, 0, 5, 0), 1);
+        // "by another one of its own": what a HOUSE has none of it can't do better by.
+        OneSmoke z = Check.in("fuel a dark 1 sweet 0 burns 1;flue f;house g at f;house h at f;sign s dark 1 to 1 sweet 0 to 0;");
+        Check.due("neither has any: one rest", Check.rests(z, 0, 1, 0, 0, 5, NONE), 1);
+        Check.due("neither has any: both none", Check.rests(z, 0, 1, 0, 0, 5, 0), 11);
     }
 
     // Part 3: "(all else as now)": neither a third HOUSE's FUELS nor what is READ matters.
