@@ -992,12 +992,6 @@ public final class OneSmoke {
             return value >= ranges[at] && value <= ranges[at + 1];
         }
 
-        /** Whether no sum from the one to the other (999 at most) lies within a sign's range. */
-        boolean misses(int sign, int by, int least, int most) {
-            int at = sign * 4 + by * 2;
-            return Math.min(least, MOST_SMOKE) > ranges[at + 1] || Math.min(most, MOST_SMOKE) < ranges[at];
-        }
-
         boolean fitsNone(int value, int by) {
             for (int sign = 0; sign < many[SIGNS]; sign++) {
                 if (fits(sign, value, by)) {
@@ -1632,24 +1626,35 @@ public final class OneSmoke {
     }
 
     /**
-     * Finds the fewest fuels by which a row of signs is read: rows of none, of one, of two fuels and so on,
-     * each time in the order of rows, so that the first one found is the one.
+     * Finds the fewest fuels by which a row of signs is read. In the second hour a house shows nothing, a fuel
+     * lit then, or one that lasts: by which of these together the second sign is read is worked out once, so
+     * that it need not be asked again behind each row of the first hour.
      */
     private static final class Speller {
-        private static final int NOW = 0;
-        private static final int NEXT = 2;
+        private static final int LIT = 1;
+        private static final int LASTING = LIT + MOST_FUELS;
+        private static final int SHOWS = LASTING + MOST_FUELS;
+        private static final int CHOICES = MOST_FUELS + 1;
+        private static final int LAST = MOST_HOUSES - 1;
+        private static final int TOO_MANY = 2 * MOST_HOUSES + 1;
 
         private final int[] houses = new int[MOST_HOUSES];
         private final int[] row = new int[MOST_HOUSES];
-        // What the houses from one on can add at most: now and in the next hour, each by dark and by sweet.
-        private final int[] most = new int[(MOST_HOUSES + 1) * 4];
+        private final int[] best = new int[MOST_HOUSES];
+        // Of each house: what it may show then, as bits, and what it gives by that.
+        private final int[] shows = new int[MOST_HOUSES];
+        private final int[] darkThen = new int[MOST_HOUSES * SHOWS];
+        private final int[] sweetThen = new int[MOST_HOUSES * SHOWS];
+        // Of each house behind what it burnt first: what it shows without a new fuel, and the fuels it may light, as bits.
+        private final int[] idle = new int[MOST_HOUSES * CHOICES];
+        private final int[] fresh = new int[MOST_HOUSES * CHOICES];
+        // Behind what the others show: by what the last house shows the second sign is read, as bits.
+        private final int[] reading = new int[SHOWS * SHOWS * SHOWS];
         private Valley valley;
         private State state;
         private int count;
         private int sign;
         private int second;
-        private int wind;
-        private int nextWind;
         private int fewest;
 
         /** Whether it can be; fewest tells by how many then. */
@@ -1658,131 +1663,144 @@ public final class OneSmoke {
             state = at;
             sign = firstSign;
             second = secondSign;
-            wind = in.windAt(at.hour);
-            nextWind = in.windAt(at.hour + 1);
             count = 0;
+            Arrays.fill(houses, NONE);
+            Arrays.fill(row, NONE);
             for (int house = 0; house < in.many[HOUSES]; house++) {
                 if (in.houseFlue[house] == flue) {
                     houses[count] = house;
                     count++;
                 }
             }
-            addUp();
-            for (int fuels = 0; fuels <= 2 * count; fuels++) {
-                fewest = fuels;
-                if (goFirst(0, 0, 0, fuels)) {
-                    return true;
+            if (secondSign != OTHERS) {
+                for (int i = 0; i <= LAST; i++) {
+                    prepare(i);
                 }
+                Arrays.fill(reading, 0);
+                note(0, 0, 0, 0);
             }
-            return false;
+            fewest = TOO_MANY;
+            goFirst(0, 0, 0, 0);
+            return fewest < TOO_MANY;
         }
 
         int firstOf(int house) {
             for (int i = 0; i < count; i++) {
                 if (houses[i] == house) {
-                    return row[i];
+                    return best[i];
                 }
             }
             return NONE;
         }
 
-        private void addUp() {
-            Arrays.fill(most, 0);
-            for (int i = count - 1; i >= 0; i--) {
-                for (int by = BY_DARK; by <= BY_SWEET; by++) {
-                    most[i * 4 + NOW + by] = most[i * 4 + 4 + NOW + by] + mostNow(houses[i], by);
-                    most[i * 4 + NEXT + by] = most[i * 4 + 4 + NEXT + by] + mostNext(houses[i], by);
-                }
-            }
-        }
-
-        private int mostNow(int house, int by) {
-            int best = valley.givesOf(state.fuel[house], state.left[house], wind, by);
+        /** What the i-th house may do in the second hour; a place without a house shows nothing. */
+        private void prepare(int i) {
+            shows[i] = 0;
+            prepareBehind(i, NONE);
             for (int fuel = 0; fuel < valley.many[FUELS]; fuel++) {
-                if (state.canLight(house, fuel)) {
-                    best = Math.max(best, valley.fresh(fuel, wind, by));
+                if (state.canLight(houses[i], fuel)) {
+                    prepareBehind(i, fuel);
                 }
             }
-            return best;
         }
 
-        private int mostNext(int house, int by) {
-            int best = valley.givesOf(state.fuel[house], state.left[house] - 1, nextWind, by);
-            for (int fuel = 0; fuel < valley.many[FUELS]; fuel++) {
-                if (state.stockOf(house, fuel) > 0) {
-                    int lasting = valley.givesOf(fuel, valley.fuelBurns[fuel] - 1, nextWind, by);
-                    best = Math.max(best, Math.max(lasting, valley.fresh(fuel, nextWind, by)));
+        private void prepareBehind(int i, int lit) {
+            int house = houses[i];
+            boolean burns = state.burns(house);
+            int old = burns ? state.fuel[house] : lit;
+            int left = burns ? state.left[house] - 1 : lit == NONE ? 0 : valley.fuelBurns[lit] - 1;
+            int at = i * CHOICES + lit + 1;
+            idle[at] = 0;
+            fresh[at] = 0;
+            if (left > 0) {
+                idle[at] = LASTING + old;
+                keep(i, LASTING + old, old, left);
+            } else {
+                for (int fuel = 0; fuel < valley.many[FUELS]; fuel++) {
+                    if (state.stockOf(house, fuel) > (fuel == lit ? 1 : 0)) {
+                        fresh[at] |= 1 << fuel;
+                        keep(i, LIT + fuel, fuel, valley.fuelBurns[fuel]);
+                    }
                 }
             }
-            return best;
+            shows[i] |= 1 << idle[at] | fresh[at] << LIT;
         }
 
-        /** Goes on from the i-th house in the first hour, with so many fuels to burn yet. */
-        private boolean goFirst(int i, int dark, int sweet, int fuels) {
-            int slots = count - i + (second == OTHERS ? 0 : count);
-            if (fuels < 0 || fuels > slots || isAstray(sign, dark, sweet, i * 4 + NOW)) {
-                return false;
+        private void keep(int i, int show, int fuel, int left) {
+            int wind = valley.windAt(state.hour + 1);
+            darkThen[i * SHOWS + show] = valley.givesOf(fuel, left, wind, BY_DARK);
+            sweetThen[i * SHOWS + show] = valley.givesOf(fuel, left, wind, BY_SWEET);
+        }
+
+        /** Notes by what the houses from the i-th one on show the second sign is read. */
+        private void note(int i, int at, int dark, int sweet) {
+            for (int show = 0; show < SHOWS; show++) {
+                if ((shows[i] >> show & 1) != 0) {
+                    int allDark = dark + darkThen[i * SHOWS + show];
+                    int allSweet = sweet + sweetThen[i * SHOWS + show];
+                    if (i < LAST) {
+                        note(i + 1, at * SHOWS + show, allDark, allSweet);
+                    } else if (valley.signOf(allDark, allSweet) == second) {
+                        reading[at] |= 1 << show;
+                    }
+                }
+            }
+        }
+
+        /** Goes on from the i-th house in the first hour; the row that is taken is the first of the fewest fuels. */
+        private void goFirst(int i, int dark, int sweet, int burnt) {
+            if (burnt >= fewest) {
+                return;
             }
             if (i >= count) {
-                return valley.signOf(dark, sweet) == sign && (second == OTHERS || goSecond(0, 0, 0, fuels));
+                if (valley.signOf(dark, sweet) == sign) {
+                    take(second == OTHERS ? burnt : fewestThen(0, 0, burnt, fewest));
+                }
+                return;
             }
             int house = houses[i];
-            row[i] = NONE;
+            int wind = valley.windAt(state.hour);
             if (state.burns(house)) {
                 int moreDark = valley.givesOf(state.fuel[house], state.left[house], wind, BY_DARK);
                 int moreSweet = valley.givesOf(state.fuel[house], state.left[house], wind, BY_SWEET);
-                return goFirst(i + 1, dark + moreDark, sweet + moreSweet, fuels);
+                goFirst(i + 1, dark + moreDark, sweet + moreSweet, burnt);
+                return;
             }
             for (int fuel = 0; fuel < valley.many[FUELS]; fuel++) {
                 if (state.canLight(house, fuel)) {
                     row[i] = fuel;
                     int moreDark = valley.fresh(fuel, wind, BY_DARK);
                     int moreSweet = valley.fresh(fuel, wind, BY_SWEET);
-                    if (goFirst(i + 1, dark + moreDark, sweet + moreSweet, fuels - 1)) {
-                        return true;
-                    }
+                    goFirst(i + 1, dark + moreDark, sweet + moreSweet, burnt + 1);
                 }
             }
             row[i] = NONE;
-            return goFirst(i + 1, dark, sweet, fuels);
+            goFirst(i + 1, dark, sweet, burnt);
         }
 
-        /** Goes on from the i-th house in the second hour, behind the row of the first. */
-        private boolean goSecond(int i, int dark, int sweet, int fuels) {
-            if (fuels < 0 || fuels > count - i || isAstray(second, dark, sweet, i * 4 + NEXT)) {
-                return false;
+        private void take(int fuels) {
+            if (fuels < fewest) {
+                fewest = fuels;
+                System.arraycopy(row, 0, best, 0, row.length);
             }
-            if (i >= count) {
-                return valley.signOf(dark, sweet) == second;
+        }
+
+        /** The fewest fuels of both hours behind the first one's row, from the i-th house on; most, if not fewer. */
+        private int fewestThen(int i, int at, int burnt, int most) {
+            int choice = i * CHOICES + row[i] + 1;
+            if (i >= LAST) {
+                if ((reading[at] >> idle[choice] & 1) != 0) {
+                    return burnt;
+                }
+                return (reading[at] >> LIT & fresh[choice]) != 0 ? burnt + 1 : most;
             }
-            int house = houses[i];
-            int lit = row[i];
-            int old = state.burns(house) ? state.fuel[house] : lit;
-            int left = state.burns(house) ? state.left[house] - 1 : lit == NONE ? 0 : valley.fuelBurns[lit] - 1;
-            if (left > 0) {
-                int moreDark = valley.givesOf(old, left, nextWind, BY_DARK);
-                int moreSweet = valley.givesOf(old, left, nextWind, BY_SWEET);
-                return goSecond(i + 1, dark + moreDark, sweet + moreSweet, fuels);
-            }
-            for (int fuel = 0; fuel < valley.many[FUELS]; fuel++) {
-                if (state.stockOf(house, fuel) > (fuel == lit ? 1 : 0)) {
-                    int moreDark = valley.fresh(fuel, nextWind, BY_DARK);
-                    int moreSweet = valley.fresh(fuel, nextWind, BY_SWEET);
-                    if (goSecond(i + 1, dark + moreDark, sweet + moreSweet, fuels - 1)) {
-                        return true;
-                    }
+            int least = fewestThen(i + 1, at * SHOWS + idle[choice], burnt, most);
+            for (int fuel = 0; fuel < valley.many[FUELS] && burnt + 1 < least; fuel++) {
+                if ((fresh[choice] >> fuel & 1) != 0) {
+                    least = fewestThen(i + 1, at * SHOWS + LIT + fuel, burnt + 1, least);
                 }
             }
-            return goSecond(i + 1, dark, sweet, fuels);
-        }
-
-        /** Smoke only grows: whether it is beyond a sign already, or can't come up to it by what may be added. */
-        private boolean isAstray(int wanted, int dark, int sweet, int at) {
-            if (wanted == NONE) {
-                return false;
-            }
-            return valley.misses(wanted, BY_DARK, dark, dark + most[at + BY_DARK])
-                || valley.misses(wanted, BY_SWEET, sweet, sweet + most[at + BY_SWEET]);
+            return least;
         }
     }
 }

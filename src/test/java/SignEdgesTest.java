@@ -30,6 +30,10 @@ public final class SignEdgesTest {
         spellWithinFromTo();
         spellBySweet();
         spellByEight();
+        spellBehindEachFuel();
+        spellTheSecondByFewest();
+        spellBehindOneThatBurns();
+        spellOfManyRows();
         sureOthers();
         sureWhateverTheOthers();
         sureTheFirstFuel();
@@ -329,6 +333,93 @@ public final class SignEdgesTest {
             Check.due("first of house " + house, x.spell(0, 0, 0, house), 0);
         }
         Check.due("one fuel too few", Check.in(text + "1;").spell(0, 0, 0, NONE), -2);
+    }
+
+    // Part 3: what a HOUSE burns first, of five FUELS, stays its own in the second hour, beside what its neighbour burns.
+    private static void spellBehindEachFuel() {
+        StringBuilder text = new StringBuilder();
+        for (int fuel = 0; fuel < 5; fuel++) {
+            text.append("fuel f").append((char) ('a' + fuel)).append(" dark ").append(1 << fuel).append(" sweet 0 burns ").append(fuel < 3 ? 1 : 2).append(';');
+        }
+        text.append("flue u;house g at u;house h at u;stock g fd 1;stock g fe 1;stock h fa 1;stock h fd 1;stock h fe 1;");
+        text.append("sign s dark 8 to 8 sweet 0 to 0;sign t dark 16 to 16 sweet 0 to 0;sign u dark 17 to 17 sweet 0 to 0;sign v dark 9 to 9 sweet 0 to 0;");
+        OneSmoke x = Check.in(text.toString().replace("sign u", "sign w"));
+        Check.due("8 twice", x.spell(0, 0, 0, NONE), 1);
+        Check.due("g's fourth", x.spell(0, 0, 0, 0), 3);
+        Check.due("16 twice", x.spell(0, 1, 1, NONE), 1);
+        Check.due("g's fifth", x.spell(0, 1, 1, 0), 4);
+        Check.due("17, then 16", x.spell(0, 2, 1, NONE), 2);
+        Check.due("g's fifth beside h's first", x.spell(0, 2, 1, 0), 4);
+        Check.due("h's first", x.spell(0, 2, 1, 1), 0);
+        Check.due("17 twice can't be", x.spell(0, 2, 2, NONE), -2);
+        Check.due("16, then 17", x.spell(0, 1, 2, NONE), 2);
+        Check.due("9, then 8", x.spell(0, 3, 0, NONE), 2);
+        Check.due("g's fourth beside h's first", x.spell(0, 3, 0, 0), 3);
+        Check.due("16, then 8 can't be", x.spell(0, 1, 0, NONE), -2);
+        Check.due("17, then 9 can't be", x.spell(0, 2, 3, NONE), -2);
+    }
+
+    // Part 3: "the fewest FUELS burnt", in the second hour too: none, if none will do, and of ways in it the one of fewest.
+    private static void spellTheSecondByFewest() {
+        String four = "flue f;house g at f;house h at f;house i at f;house j at f;";
+        String fuels = "fuel a dark 1 sweet 0 burns 1;fuel b dark 2 sweet 0 burns 1;" + four + "stock j a 2;stock j b 2;";
+        OneSmoke x = Check.in(fuels + "sign s dark 0 to 2 sweet 0 to 0;");
+        Check.due("0 to 2 twice, by none", x.spell(0, 0, 0, NONE), 0);
+        OneSmoke w = Check.in(fuels + "sign s dark 1 to 2 sweet 0 to 0;sign t dark 0 to 1 sweet 0 to 0;");
+        Check.due("1 to 2, then none", w.spell(0, 0, 1, NONE), 1);
+        Check.due("none, then 1 to 2", w.spell(0, 1, 0, NONE), 1);
+        Check.due("1 to 2 twice", w.spell(0, 0, 0, NONE), 2);
+        Check.due("1 to 2 by the first", w.spell(0, 0, 0, 3), 0);
+        OneSmoke y = Check.in("fuel a dark 1 sweet 0 burns 1;fuel b dark 3 sweet 0 burns 1;flue f;house g at f;house h at f;house i at f;"
+            + "stock g a 1;stock h b 1;stock i b 1;sign s dark 6 to 6 sweet 0 to 0;");
+        Check.due("none, then six by h and i, g at rest", y.spell(0, NONE, 0, NONE), 2);
+        OneSmoke z = Check.in("fuel a dark 6 sweet 0 burns 1;fuel b dark 3 sweet 0 burns 1;" + four
+            + "stock g b 1;stock h b 1;stock i a 1;stock j a 1;sign s dark 6 to 6 sweet 0 to 0;");
+        Check.due("none, then six by one rather than by two", z.spell(0, NONE, 0, NONE), 1);
+        Check.due("six by one twice", z.spell(0, 0, 0, NONE), 2);
+        Check.due("i first", z.spell(0, 0, 0, 2), 0);
+        Check.due("j behind it", z.spell(0, 0, 0, 3), NONE);
+    }
+
+    // Part 3: a FUEL that a HOUSE ahead of one with a FIRE burns counts, in the first hour and in the second.
+    private static void spellBehindOneThatBurns() {
+        OneSmoke x = Check.in("fuel a dark 1 sweet 0 burns 1;fuel b dark 10 sweet 0 burns 3;flue f;house g at f;house h at f;house i at f;"
+            + "stock g a 2;stock h b 1;stock i a 2;sign s dark 11 to 11 sweet 0 to 0;sign t dark 12 to 12 sweet 0 to 0;");
+        x.burn(1, 1);
+        Check.due("11", x.spell(0, 0, -2, NONE), 1);
+        Check.due("by g", x.spell(0, 0, -2, 0), 0);
+        Check.due("12", x.spell(0, 1, -2, NONE), 2);
+        Check.due("11 twice", x.spell(0, 0, 0, NONE), 2);
+        Check.due("12, then 11", x.spell(0, 1, 0, NONE), 3);
+        Check.due("12 twice", x.spell(0, 1, 1, NONE), 4);
+        Check.due("none, then 12", x.spell(0, NONE, 1, NONE), 2);
+    }
+
+    // Part 3: four HOUSES of five FUELS in two hours, 1,679,616 rows: what can be only by the last, or can't be at all.
+    private static void spellOfManyRows() {
+        StringBuilder text = new StringBuilder();
+        for (int fuel = 0; fuel < 5; fuel++) {
+            text.append("fuel f").append((char) ('a' + fuel)).append(" dark ").append(new int[] {7, 13, 29, 41, 59}[fuel]).append(" sweet 1 burns 1;");
+        }
+        text.append("flue u;");
+        for (char house = 'g'; house <= 'j'; house++) {
+            text.append("house ").append(house).append(" at u;");
+            for (char fuel = 'a'; fuel <= 'e'; fuel++) {
+                text.append("stock ").append(house).append(" f").append(fuel).append(" 1;");
+            }
+        }
+        text.append("sign s dark 0 to 999 sweet 0 to 4;sign t dark 0 to 999 sweet 0 to 999;");
+        OneSmoke x = Check.in(text.toString());
+        for (int second = NONE; second < 2; second++) {
+            Check.due("any, then " + second, x.spell(0, 0, second, NONE), second == 0 ? 0 : -2);
+            Check.due("any behind any, then " + second, x.spell(0, 1, second, NONE), -2);
+            Check.due("none, then " + second, x.spell(0, NONE, second, NONE), -2);
+        }
+        OneSmoke y = Check.in(text.toString().replace("dark 0 to 999 sweet 0 to 4", "dark 236 to 236 sweet 4 to 4").replace("dark 0 to 999 sweet 0 to 999", "dark 164 to 164 sweet 4 to 4"));
+        Check.due("all by the last fuel", y.spell(0, 0, -2, NONE), 4);
+        Check.due("again: there is but one each", y.spell(0, 0, 0, NONE), -2);
+        Check.due("then all by the fourth", y.spell(0, 0, 1, NONE), 8);
+        Check.due("none, then all by the last", y.spell(0, NONE, 0, NONE), 4);
     }
 
     // Promise 13: "NONE: others, it has a FIRE, none".
